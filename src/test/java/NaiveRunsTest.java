@@ -6,7 +6,7 @@ import java.util.Random;
  * them; digest() and undo() show what a call changed.
  */
 final class NaiveRunsTest {
-    private static final int RUNS = 160;
+    private static final int RUNS = 400;
     private static final int CALLS = 512;
 
     private final Random random;
@@ -95,7 +95,7 @@ final class NaiveRunsTest {
     }
 
     private void restrict(int which) {
-        boolean on = random.nextInt(3) > 0;
+        boolean on = random.nextInt(4) > 0;
         int i = element();
         int j = element();
         int k = oneToSix();
@@ -285,11 +285,15 @@ final class NaiveRunsTest {
     private void interval(int which) {
         int r = r();
         int s = r();
-        if (random.nextInt(3) == 0) {
+        int far = random.nextInt(3);
+        if (far == 0) {
             same("finest(" + r + ")", x.finest(r), y.finest(r));
-        }
-        if (random.nextInt(3) == 0) {
             same("coarsest(" + s + ")", x.coarsest(s), y.coarsest(s));
+        } else if (far == 1) {
+            int low = x.count() - 1 - random.nextInt(3);
+            int high = random.nextInt(3);
+            same("unrank(" + r + ", " + low + ")", x.unrank(r, low), y.unrank(r, low));
+            same("unrank(" + s + ", " + high + ")", x.unrank(s, high), y.unrank(s, high));
         }
         int b = base();
         int k = random.nextInt(8) - 1;
