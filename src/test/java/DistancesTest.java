@@ -32,6 +32,8 @@ final class DistancesTest {
         distance(5, "012/34", "01/234", 1, 4);
         distance(6, "0123/45", "01/2345", 2, 8);
         distance(6, "012345", "01/2345", 2, 8);
+        // A block that shares nothing with its match has none that stay.
+        distance(4, "0/123", "012/3", 2, 4);
         // Both blocks share most with the same one.
         distance(6, "012/345", "01345/2", 2, 8);
     }

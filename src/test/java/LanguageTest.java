@@ -35,8 +35,8 @@ final class LanguageTest {
         "\\bthrows?\\b", "\\btry\\b", "\\bcatch\\b", "\\bsynchronized\\b", "\\bassert\\b", "->",
         "::", "\\bimport\\b", "\\bpackage\\b", "\\bdouble\\b", "\\bfloat\\b", "Exact\\(",
         "\\bequals\\(", "\\bhashCode\\(", "\\btoString\\("};
-    /** An object is small, and a run of its calls makes no others: ten times that is far off. */
-    private static final long BYTES_OF_A_RUN = 400_000;
+    /** An object takes some 14 000 bytes with all its rows, and its calls make nothing more. */
+    private static final long BYTES_OF_A_RUN = 40_000;
 
     private LanguageTest() {
     }

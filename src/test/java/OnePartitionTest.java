@@ -153,6 +153,7 @@ final class OnePartitionTest {
         Due.read(x, 0, "04/13/25");
         Due.due("32: where(0), blocks 0 and 2 before 1 and 2", x.where(0), 2);
         Due.read(x, 0, "03/12/45");
+        Due.due("31: why(0), noncrossing", x.why(0), 0);
         Due.due("32: where(0), admitted", x.where(0), -9);
     }
 

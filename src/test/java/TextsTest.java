@@ -73,6 +73,8 @@ final class TextsTest {
         fault(x, "01", 2);
         fault(x, "00", 1);
         fault(x, "0/0", 2);
+        fault(x, "011", 2);
+        fault(x, "0/2/2", 4);
         fault(x, "0//12", 2);
         fault(x, "0/", 2);
         fault(x, "012/", 4);
