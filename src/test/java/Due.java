@@ -12,6 +12,13 @@ final class Due {
         }
     }
 
+    static void due(String what, String got, String want) {
+        if (!got.equals(want)) {
+            wrong++;
+            System.out.println(what + " is " + got + ", due is " + want);
+        }
+    }
+
     static void holds(String what, boolean truth) {
         if (!truth) {
             wrong++;
@@ -46,19 +53,56 @@ final class Due {
 
     /** The growth string of a register, without a sign between the numbers. */
     static String growth(PartitionPoset x, int r) {
+        return growth(x, r, x.told(0));
+    }
+
+    private static String growth(PartitionPoset x, int r, int n) {
         StringBuilder text = new StringBuilder();
-        for (int e = 0; e < x.told(0); e++) {
+        for (int e = 0; e < n; e++) {
             text.append(x.blockOf(r, e));
         }
         return text.toString();
     }
 
-    static void growthIs(PartitionPoset x, int r, String want) {
-        String got = growth(x, r);
-        if (!got.equals(want)) {
-            wrong++;
-            System.out.println("register " + r + " holds " + got + ", due is " + want);
+    /** The growth strings of all registers. */
+    static String growths(PartitionPoset x) {
+        int n = x.told(0);
+        StringBuilder text = new StringBuilder();
+        for (int r = 0; r < 8; r++) {
+            text.append(x.blocks(r) == -2 ? "empty" : growth(x, r, n)).append(' ');
         }
+        return text.toString();
+    }
+
+    static void growthIs(PartitionPoset x, int r, String want) {
+        due("register " + r, growth(x, r), want);
+    }
+
+    /** What digest() must answer, made of the other answers as promise 51 says. */
+    static long digestByWord(PartitionPoset x) {
+        long h = 18446;
+        for (int what = 0; what <= 8; what++) {
+            h = 31 * h + x.told(what);
+        }
+        h = 31 * h + x.count();
+        for (int k = 1; k <= 6; k++) {
+            h = 31 * h + x.countWith(k);
+        }
+        int n = x.told(0);
+        for (int r = 0; r < 8; r++) {
+            if (x.blocks(r) == -2) {
+                h = 31 * h - 9;
+            } else {
+                h = 31 * h + x.blocks(r);
+                for (int e = 0; e < n; e++) {
+                    h = 31 * h + x.blockOf(r, e);
+                }
+                h = 31 * h + x.why(r);
+                h = 31 * h + x.where(r);
+                h = 31 * h + x.index(r);
+            }
+        }
+        return h;
     }
 
     /** A new object with n elements. */

@@ -128,7 +128,7 @@ final class LanguageTest {
         PartitionPoset x = Due.ofSize(6);
         x.finest(0);
         x.coarsest(1);
-        for (int i = 0; i < 27; i++) {
+        for (int i = 0; i < 26; i++) {
             x.allowSize(6, true);
             x.join(0, 1, 2);
             x.complement(0, 3);

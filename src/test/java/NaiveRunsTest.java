@@ -57,7 +57,7 @@ final class NaiveRunsTest {
         if (drawn == 0) {
             return new int[] {-1, 6, Integer.MIN_VALUE, Integer.MAX_VALUE}[random.nextInt(4)];
         }
-        return drawn == 1 ? random.nextInt(6) : random.nextInt(x.told(0));
+        return drawn == 1 ? random.nextInt(6) : random.nextInt(y.told(0));
     }
 
     private int oneToSix() {
@@ -152,7 +152,7 @@ final class NaiveRunsTest {
     /** A partition as a text, now and then with a fault. */
     private String someText() {
         StringBuilder text = new StringBuilder();
-        int n = x.told(0);
+        int n = y.told(0);
         for (int e = 0; e < n; e++) {
             text.insert(random.nextInt(text.length() + 1), e);
         }
@@ -210,7 +210,7 @@ final class NaiveRunsTest {
                 same("complement(" + r + ", " + t + ")", x.complement(r, t), y.complement(r, t));
                 return;
             case 15, 16:
-                int k = random.nextInt(x.count() + 3) - 1;
+                int k = random.nextInt(y.count() + 3) - 1;
                 same("unrank(" + t + ", " + k + ")", x.unrank(t, k), y.unrank(t, k));
                 return;
             case 17:
@@ -290,7 +290,7 @@ final class NaiveRunsTest {
             same("finest(" + r + ")", x.finest(r), y.finest(r));
             same("coarsest(" + s + ")", x.coarsest(s), y.coarsest(s));
         } else if (far == 1) {
-            int low = x.count() - 1 - random.nextInt(3);
+            int low = y.count() - 1 - random.nextInt(3);
             int high = random.nextInt(3);
             same("unrank(" + r + ", " + low + ")", x.unrank(r, low), y.unrank(r, low));
             same("unrank(" + s + ", " + high + ")", x.unrank(s, high), y.unrank(s, high));

@@ -9,6 +9,9 @@ final class TextsTest {
         readsPartitions();
         tellsFaults();
         readIsAChange();
+        fullAndEmptyBuffers();
+        eachByteAtEachPlace();
+        allShortTexts();
         Due.end();
     }
 
@@ -112,5 +115,86 @@ final class TextsTest {
         Due.due("10: told(7) after undo(): the text stays", x.told(7), 4);
         Due.due("10: read(1) of the same text", x.read(1), 2);
         Due.growthIs(x, 1, "011");
+    }
+
+    /** The buffer has 20 bytes at most, of whatever sort; FULL leaves it as it is. */
+    private static void fullAndEmptyBuffers() {
+        PartitionPoset x = Due.ofSize(6);
+        Due.due("9: clear() of a new object", x.clear(), 0);
+        Due.due("10: read(0) of nothing", x.read(0), -10);
+        String text = "0/1/2/3/4/5/55555555";
+        for (int i = 0; i < 19; i++) {
+            Due.due("8: type()", x.type(text.charAt(i)), i + 1);
+        }
+        Due.due("50: told(7), one is free", x.told(7), 19);
+        Due.due("8: type() of the last one", x.type(text.charAt(19)), 20);
+        Due.due("50: told(7), full", x.told(7), 20);
+        Due.due("8: type('0'), full", x.type('0'), -4);
+        Due.due("8: type(0), full", x.type(0), -4);
+        Due.due("8: type(127), full", x.type(127), -4);
+        Due.due("50: told(7), still full", x.told(7), 20);
+        Due.due("10: read(0), full", x.read(0), -22);
+        Due.due("9: clear(), full", x.clear(), 20);
+        Due.due("9: clear() again", x.clear(), 0);
+        Due.due("10: read(0) of nothing again", x.read(0), -10);
+        Due.due("8: type('5') from the start", x.type('5'), 1);
+        Due.due("10: read(0) of 5", x.read(0), -11);
+        Due.due("50: told(8): none of these is recorded", x.told(8), 1);
+        Due.due("10: read(0) of the longest partition", Due.read(x, 0, "5/4/3/2/1/0"), 6);
+        Due.due("50: told(8): read() is", x.told(8), 2);
+        Due.due("50: told(7): the text stays", x.told(7), 11);
+    }
+
+    /** All 128 bytes, as the first one, behind an element, behind a /, and behind all elements. */
+    private static void eachByteAtEachPlace() {
+        for (int n = 1; n <= 6; n++) {
+            PartitionPoset x = Due.ofSize(n);
+            for (int c = 0; c <= 127; c++) {
+                x = c % 16 == 0 ? Due.ofSize(n) : x;
+                boolean isElement = c >= '0' && c < '0' + n;
+                boolean isMissing = isElement && c != '0';
+                int one = n == 1 ? 1 : -11;
+                answers(x, c, "", "", isElement ? one : -10);
+                answers(x, c, "0", "", c == '/' || isMissing ? (n == 2 && isMissing ? 1 : -12)
+                        : -11);
+                answers(x, c, "0/", "", isMissing ? (n == 2 ? 2 : -13) : -12);
+                answers(x, c, "543210".substring(6 - n), "", -10 - n - (c == '/' ? 1 : 0));
+                answers(x, c, "543210".substring(6 - n), "0", -10 - n - (c == '/' ? 1 : 0));
+            }
+        }
+    }
+
+    private static void answers(PartitionPoset x, int c, String before, String behind, int due) {
+        Due.text(x, before);
+        Due.due("8: type(" + c + ")", x.type(c), before.length() + 1);
+        for (int i = 0; i < behind.length(); i++) {
+            x.type(behind.charAt(i));
+        }
+        Due.due("10: read(3) of " + before + ", byte " + c + ", " + behind, x.read(3), due);
+    }
+
+    /** All texts of up to six signs, for three elements, against NaivePoset. */
+    private static void allShortTexts() {
+        String signs = "012/3 ";
+        for (int length = 0; length <= 6; length++) {
+            int texts = 1;
+            for (int i = 0; i < length; i++) {
+                texts *= signs.length();
+            }
+            for (int number = 0; number < texts; number++) {
+                PartitionPoset x = Due.ofSize(3);
+                NaivePoset y = new NaivePoset();
+                y.setSize(3);
+                StringBuilder text = new StringBuilder();
+                for (int rest = number, i = 0; i < length; i++, rest /= signs.length()) {
+                    char c = signs.charAt(rest % signs.length());
+                    text.append(c);
+                    x.type(c);
+                    y.type(c);
+                }
+                Due.due("10: read(0) of '" + text + "'", x.read(0), y.read(0));
+                Due.due("10: blocks(0) of '" + text + "'", x.blocks(0), y.blocks(0));
+            }
+        }
     }
 }
