@@ -29,6 +29,8 @@ final class DescriptionTest {
         covers();
         moebius();
         changesRecordTheStateBefore();
+        negativeValues();
+        fiveHundredAndTwelveCalls();
         Due.end();
     }
 
@@ -517,5 +519,35 @@ final class DescriptionTest {
         Due.due("undo()", x.undo(), 0);
         Due.due("told(0)", x.told(0), 5);
         Due.due("undo()", x.undo(), -3);
+    }
+
+    /** "Methods whose values can be negative say how errors are told." */
+    private static void negativeValues() {
+        PartitionPoset x = Due.ofSize(2);
+        x.finest(0);
+        x.coarsest(1);
+        Due.due("moebius(0, 1) of two elements", x.moebius(0, 1), -1);
+        for (int b = -9; b <= 9; b++) {
+            Due.due("rankSum(0, 1, " + b + ")", x.rankSum(0, 1, b), 1 + b);
+            Due.due("characteristic(0, 1, " + b + ")", x.characteristic(0, 1, b), b - 1);
+        }
+        Due.due("moebius(0, 2)", x.moebius(0, 2), -1000000002);
+        Due.due("moebius(0, 8)", x.moebius(0, 8), -1000000001);
+        Due.due("rankSum(0, 2, 0)", x.rankSum(0, 2, 0), -1000000002);
+        Due.due("rankSum(0, 1, 10)", x.rankSum(0, 1, 10), -1000000001);
+        Due.due("characteristic(0, 2, 0)", x.characteristic(0, 2, 0), -1000000002);
+        Due.due("characteristic(0, 1, -10)", x.characteristic(0, 1, -10), -1000000001);
+        x.allowNumber(2, false);
+        Due.due("moebius(0, 1)", x.moebius(0, 1), -1000000003);
+        Due.due("characteristic(0, 1, 0)", x.characteristic(0, 1, 0), -1000000003);
+    }
+
+    /** "An object is used for at most 512 calls after it has been made" */
+    private static void fiveHundredAndTwelveCalls() {
+        PartitionPoset x = new PartitionPoset();
+        for (int call = 1; call < 512; call++) {
+            Due.due("call " + call + ": unrank", x.unrank(call % 8, call % 52) > 0 ? 1 : 0, 1);
+        }
+        Due.due("call 512: index(7), of the last call", x.index(7), 511 % 52);
     }
 }

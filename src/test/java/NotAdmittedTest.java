@@ -95,7 +95,7 @@ final class NotAdmittedTest {
         Due.due("45: characteristic, none admitted", x.characteristic(r, s, 9), FAULT - 3);
     }
 
-    /** Four elements without two blocks: 0000, 0012, 0102, 0112, 0120, 0121, 0122, 0123 are left. */
+    /** Four elements: 0000, 0012, 0102, 0112, 0120, 0121, 0122 and 0123 are left. */
     private static PartitionPoset withoutTwoBlocks() {
         PartitionPoset x = Due.ofSize(4);
         x.finest(0);
@@ -122,6 +122,13 @@ final class NotAdmittedTest {
         Due.read(x, 2, "0/123");
         Due.due("22: next(2)", x.next(2), 3);
         Due.growthIs(x, 2, "0112");
+        // Before the first one that is admitted, and behind the last one.
+        x.allowNumber(1, false);
+        x.allowNumber(4, false);
+        Due.due("22: next(1), to the first of all", x.next(1), 0);
+        Due.growthIs(x, 1, "0012");
+        Due.due("23: previous(0), to the last of all", x.previous(0), 5);
+        Due.growthIs(x, 0, "0122");
     }
 
     private static void boundsOfThoseThatAreNot() {

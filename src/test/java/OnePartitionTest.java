@@ -10,6 +10,7 @@ final class OnePartitionTest {
         index();
         reasonsInTheirOrder();
         placesOfReasons();
+        alternately();
         faults();
         Due.end();
     }
@@ -155,6 +156,35 @@ final class OnePartitionTest {
         Due.read(x, 0, "03/12/45");
         Due.due("31: why(0), noncrossing", x.why(0), 0);
         Due.due("32: where(0), admitted", x.where(0), -9);
+    }
+
+    /** Each method asked of one register and then of another one, in turn. */
+    private static void alternately() {
+        PartitionPoset x = Due.ofSize(4);
+        Due.read(x, 0, "02/13");
+        Due.read(x, 1, "013/2");
+        x.noncrossing(true);
+        x.allowSize(3, false);
+        int[][] due = {{2, 0, 5, 16, 1, -9, 5, 1}, {2, 1, 11, 65, 0, -9, 1, 0}};
+        for (int turn = 0; turn < 4; turn++) {
+            int r = turn % 2;
+            x.blockOf(1 - r, 0);
+            Due.due("25: blocks(" + r + ")", x.blocks(r), due[r][0]);
+            x.blockOf(1 - r, 0);
+            Due.due("26: blockOf(" + r + ", 2)", x.blockOf(r, 2), due[r][1]);
+            x.blockOf(1 - r, 0);
+            Due.due("27: block(" + r + ", 0)", x.block(r, 0), due[r][2]);
+            x.blockOf(1 - r, 0);
+            Due.due("28: typeOf(" + r + ")", x.typeOf(r), due[r][3]);
+            x.blockOf(1 - r, 0);
+            Due.due("29: crossings(" + r + ")", x.crossings(r), due[r][4]);
+            x.blockOf(1 - r, 0);
+            Due.due("30: index(" + r + ")", x.index(r), due[r][5]);
+            x.blockOf(1 - r, 0);
+            Due.due("31: why(" + r + ")", x.why(r), due[r][6]);
+            x.blockOf(1 - r, 0);
+            Due.due("32: where(" + r + ")", x.where(r), due[r][7]);
+        }
     }
 
     private static void faults() {

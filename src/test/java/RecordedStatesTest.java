@@ -100,7 +100,7 @@ final class RecordedStatesTest {
         asBefore(48, 0, "median of itself", 1, 0);
     }
 
-    /** 03/12 in 0, the finest in 1, the coarsest in 2, and so on; unless only setSize() is tried. */
+    /** 03/12 in 0, the finest in 1, the coarsest in 2, and so on; all empty for setSize(). */
     private static void asBefore(int promise, long due, String what, int... arguments) {
         PartitionPoset x = Due.ofSize(4);
         if (promise != 2) {

@@ -76,6 +76,8 @@ final class RegistersTest {
         Due.due("15: join(1, 2, 1)", x.join(1, 2, 1), 3);
         Due.growthIs(x, 1, "011200");
         Due.due("15: told(8)", x.told(8), 9);
+        Due.due("15: join(3, 3, 7) of the finest", x.join(3, 3, 7), 6);
+        Due.growthIs(x, 7, "012345");
     }
 
     private static void unite() {
@@ -85,12 +87,16 @@ final class RegistersTest {
         Due.due("16: unite(0, 2, 2)", x.unite(0, 2, 2), 2);
         Due.due("16: unite(0, 0, 4), in one block", x.unite(0, 0, 4), 2);
         Due.growthIs(x, 0, "01000");
-        Due.due("16: told(8)", x.told(8), 5);
+        x.finest(2);
+        Due.due("16: unite(2, 3, 3) of the finest", x.unite(2, 3, 3), 5);
+        Due.due("16: unite(2, 3, 0)", x.unite(2, 3, 0), 4);
+        Due.growthIs(x, 2, "01203");
+        Due.due("16: told(8)", x.told(8), 8);
         Due.due("16: unite(0, 5, 0)", x.unite(0, 5, 0), -1);
         Due.due("16: unite(0, 0, 5)", x.unite(0, 0, 5), -1);
         Due.due("16: unite(0, -1, 0)", x.unite(0, -1, 0), -1);
         Due.due("16: unite(1, 0, 5): BAD before EMPTY", x.unite(1, 0, 5), -1);
-        Due.due("16: told(8) after faults", x.told(8), 5);
+        Due.due("16: told(8) after faults", x.told(8), 8);
     }
 
     private static void isolate() {
@@ -152,6 +158,15 @@ final class RegistersTest {
         Due.due("20: complement(6, 8): BAD before EMPTY", x.complement(6, 8), -1);
         Due.due("20: digest() after faults", x.digest(), before);
         Due.due("20: complement(2, 2) onto itself", x.complement(2, 2), 3);
+        complementIs("0", "0");
+        complementIs("0/1", "01");
+        complementIs("01", "0/1");
+        complementIs("0/1/2", "012");
+        complementIs("01/2", "0/12");
+        complementIs("0/12", "02/1");
+        complementIs("02/1", "01/2");
+        complementIs("012", "0/1/2");
+        complementIs("014/23", "13/0/2/4");
         // A partition and its complement have n + 1 blocks in all; the complement of the
         // complement is the partition rotated the other way.
         x = Due.ofSize(6);
@@ -163,6 +178,14 @@ final class RegistersTest {
             x.rotate(1);
             Due.due("20: twice, and rotated, index(1)", x.index(1), k);
         }
+    }
+
+    private static void complementIs(String text, String due) {
+        PartitionPoset x = with(text.replace("/", "").length(), text, due);
+        Due.due("20: complement(0, 2) of " + text, x.complement(0, 2), x.blocks(1));
+        Due.due("20: complement of " + text, Due.growth(x, 2), Due.growth(x, 1));
+        Due.due("20: index(2)", x.index(2), x.index(1));
+        Due.due("20: disagreements(1, 2)", x.disagreements(1, 2), 0);
     }
 
     private static void unrank() {

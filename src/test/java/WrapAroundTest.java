@@ -8,8 +8,8 @@ import java.util.List;
  */
 final class WrapAroundTest {
     private static final int[] SEEDS = {0, 1, 2, 3, -1, -2, 17, 77, 65536, -65536, 19088743,
-        1103515245, -1103515245, 12345, -12345, 1 << 30, -(1 << 30), Integer.MAX_VALUE - 1,
-        Integer.MAX_VALUE, Integer.MIN_VALUE, Integer.MIN_VALUE + 1};
+        1103515245, -1103515245, 12345, -12345, 42627, 47902, 1 << 30, -(1 << 30),
+        Integer.MAX_VALUE - 1, Integer.MAX_VALUE, Integer.MIN_VALUE, Integer.MIN_VALUE + 1};
 
     private WrapAroundTest() {
     }
@@ -36,6 +36,10 @@ final class WrapAroundTest {
         Due.due("24: draw(0, 1): x is 1103527590", x.draw(0, 1), 16838 % 203);
         Due.due("24: draw(0, 2): x wraps", x.draw(0, 2), (33676 - 32768) % 203);
         Due.due("24: index(0)", x.index(0), 908 % 203);
+        // x is 1062535168 = 16213 * 65536, and 2424766463 = 36999 * 65536 - 1: where 12344 and
+        // 12346 in place of 12345 would be seen.
+        Due.due("24: draw(0, 42627)", x.draw(0, 42627), 16213 % 203);
+        Due.due("24: draw(0, 47902)", x.draw(0, 47902), (36998 - 32768) % 203);
     }
 
     private static int drawn(int seed, int count) {
